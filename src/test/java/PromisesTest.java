@@ -35,48 +35,6 @@ public final class PromisesTest {
         DUE.end();
     }
 
-    /** x = 0, y = 0 and x + y = 2: seven rooms, of which the triangle (row 8) is bounded. */
-    private static SpaceWalls triangle() {
-        SpaceWalls space = new SpaceWalls(2);
-        space.wall(1, 0, 0, 0);
-        space.wall(0, 1, 0, 0);
-        space.wall(1, 1, 0, 2);
-        return space;
-    }
-
-    /** The six walls of a cube from 0 to 1. */
-    private static SpaceWalls cube() {
-        SpaceWalls space = new SpaceWalls(3);
-        for (int e = 0; e < 2; e++) {
-            space.wall(1, 0, 0, e);
-            space.wall(0, 1, 0, e);
-            space.wall(0, 0, 1, e);
-        }
-        return space;
-    }
-
-    /** Three walls that all run along the line x = y = z. */
-    private static SpaceWalls fan() {
-        SpaceWalls space = new SpaceWalls(3);
-        space.wall(1, -1, 0, 0);
-        space.wall(1, 0, -1, 0);
-        space.wall(0, 1, -1, 0);
-        return space;
-    }
-
-    /**
-     * Eight walls in general position: a place is on those walls k that are roots of
-     * k^3 - z k^2 - y k - x, so on at most three, and no three different k have the sum z = 7.
-     */
-    private static SpaceWalls general() {
-        SpaceWalls space = new SpaceWalls(3);
-        for (int k = -3; k <= 3; k++) {
-            space.wall(1, k, k * k, k * k * k);
-        }
-        space.wall(0, 0, 1, 7);
-        return space;
-    }
-
     private static void constant() {
         DUE.is("NONE", SpaceWalls.NONE, -1);
     }
@@ -154,7 +112,7 @@ public final class PromisesTest {
     }
 
     private static void take() {
-        SpaceWalls space = triangle();
+        SpaceWalls space = Spaces.triangle();
         DUE.is("take 3", space.take(3), false);
         DUE.is("take -1", space.take(-1), false);
         DUE.is("take least", space.take(LEAST), false);
@@ -198,7 +156,7 @@ public final class PromisesTest {
     }
 
     private static void row() {
-        SpaceWalls space = triangle();
+        SpaceWalls space = Spaces.triangle();
         DUE.is("row below all", space.row(-1, -1, 0), 0);
         DUE.is("row above all", space.row(5, 5, 0), 26);
         DUE.is("row on two", space.row(0, 0, 0), 4);
@@ -224,24 +182,24 @@ public final class PromisesTest {
 
     private static void faces() {
         int[][] due = {{8, 36, 54, 27}, {0, 1, 6, 6}, {56, 196, 232, 93}};
-        SpaceWalls[] spaces = {cube(), fan(), general()};
+        SpaceWalls[] spaces = {Spaces.cube(), Spaces.fan(), Spaces.general(3, 8)};
         for (int i = 0; i < 3; i++) {
             for (int width = 0; width < 4; width++) {
                 DUE.is("faces of " + i + " " + width, spaces[i].faces(width), due[i][width]);
             }
         }
-        DUE.is("faces 4", cube().faces(4), NONE);
-        DUE.is("faces -1", cube().faces(-1), NONE);
-        DUE.is("faces 3 of 2 numbers", triangle().faces(3), NONE);
+        DUE.is("faces 4", Spaces.cube().faces(4), NONE);
+        DUE.is("faces -1", Spaces.cube().faces(-1), NONE);
+        DUE.is("faces 3 of 2 numbers", Spaces.triangle().faces(3), NONE);
         DUE.is("faces 2 of 1 number", new SpaceWalls(1).faces(2), NONE);
-        DUE.is("faces least", cube().faces(LEAST), NONE);
-        DUE.is("faces greatest", cube().faces(GREATEST), NONE);
+        DUE.is("faces least", Spaces.cube().faces(LEAST), NONE);
+        DUE.is("faces greatest", Spaces.cube().faces(GREATEST), NONE);
         DUE.is("faces 0 without walls", new SpaceWalls(2).faces(0), 0);
         DUE.is("faces 2 without walls", new SpaceWalls(2).faces(2), 1);
     }
 
     private static void face() {
-        SpaceWalls space = triangle();
+        SpaceWalls space = Spaces.triangle();
         int[][] due = {{4, 14, 16}, edgesOfTriangle(space), {0, 2, 6, 8, 20, 24, 26}};
         for (int width = 0; width < 3; width++) {
             for (int i = 0; i < due[width].length; i++) {
@@ -257,7 +215,7 @@ public final class PromisesTest {
         DUE.is("width least", space.face(LEAST, 0), NONE);
         DUE.is("no walls", new SpaceWalls(3).face(3, 0), 0);
         DUE.is("no walls, no corner", new SpaceWalls(3).face(0, 0), NONE);
-        DUE.is("the fan's line", fan().face(1, 0), 13);
+        DUE.is("the fan's line", Spaces.fan().face(1, 0), 13);
     }
 
     /** One place on each edge, below, between and above the corners of its wall. */
@@ -272,7 +230,7 @@ public final class PromisesTest {
     }
 
     private static void width() {
-        SpaceWalls space = triangle();
+        SpaceWalls space = Spaces.triangle();
         DUE.is("a corner", space.width(4), 0);
         DUE.is("an edge", space.width(17), 1);
         DUE.is("a room", space.width(8), 2);
@@ -283,16 +241,16 @@ public final class PromisesTest {
         DUE.is("6561", space.width(6561), NONE);
         DUE.is("greatest", space.width(GREATEST), NONE);
         DUE.is("least", space.width(LEAST), NONE);
-        DUE.is("on three walls of rank 2", fan().width(13), 1);
+        DUE.is("on three walls of rank 2", Spaces.fan().width(13), 1);
         DUE.is("no walls", new SpaceWalls(3).width(0), 3);
         DUE.is("no walls, row 1", new SpaceWalls(3).width(1), NONE);
-        SpaceWalls full = general();
+        SpaceWalls full = Spaces.general(3, 8);
         full.take(0);
         DUE.is("no eighth wall", full.width(6560), NONE);
     }
 
     private static void bounded() {
-        SpaceWalls space = triangle();
+        SpaceWalls space = Spaces.triangle();
         int[] open = {0, 2, 6, 20, 24, 26};
         DUE.is("the triangle", space.bounded(8), true);
         for (int room : open) {
@@ -313,7 +271,7 @@ public final class PromisesTest {
         part.wall(2, 0, 0, 0);
         part.wall(2, 0, 0, 1);
         DUE.is("between two places", part.bounded(2), true);
-        SpaceWalls tube = triangle3();
+        SpaceWalls tube = Spaces.tube();
         DUE.is("a tube", tube.bounded(8), false);
         tube.wall(0, 0, 1, 0);
         DUE.is("a tube with one end", tube.bounded(8), false);
@@ -322,21 +280,12 @@ public final class PromisesTest {
         DUE.is("behind an end", tube.bounded(8), false);
     }
 
-    /** The triangle's walls in a space of three numbers. */
-    private static SpaceWalls triangle3() {
-        SpaceWalls space = new SpaceWalls(3);
-        space.wall(1, 0, 0, 0);
-        space.wall(0, 1, 0, 0);
-        space.wall(1, 1, 0, 2);
-        return space;
-    }
-
     private static void boundedRooms() {
-        DUE.is("triangle", triangle().boundedRooms(), 1);
-        DUE.is("cube", cube().boundedRooms(), 1);
-        DUE.is("fan", fan().boundedRooms(), 0);
-        DUE.is("tube", triangle3().boundedRooms(), 0);
-        DUE.is("general", general().boundedRooms(), 35);
+        DUE.is("triangle", Spaces.triangle().boundedRooms(), 1);
+        DUE.is("cube", Spaces.cube().boundedRooms(), 1);
+        DUE.is("fan", Spaces.fan().boundedRooms(), 0);
+        DUE.is("tube", Spaces.tube().boundedRooms(), 0);
+        DUE.is("general", Spaces.general(3, 8).boundedRooms(), 35);
         for (int numbers = 1; numbers <= 3; numbers++) {
             DUE.is("no walls", new SpaceWalls(numbers).boundedRooms(), 0);
         }
@@ -358,16 +307,16 @@ public final class PromisesTest {
     }
 
     private static void poly() {
-        sameFactors("triangle", triangle(), 3, -3, 1);
-        sameFactors("cube", cube(), -8, 12, -6, 1);
-        sameFactors("fan", fan(), 0, 2, -3, 1);
-        sameFactors("general", general(), -56, 28, -8, 1);
+        sameFactors("triangle", Spaces.triangle(), 3, -3, 1);
+        sameFactors("cube", Spaces.cube(), -8, 12, -6, 1);
+        sameFactors("fan", Spaces.fan(), 0, 2, -3, 1);
+        sameFactors("general", Spaces.general(3, 8), -56, 28, -8, 1);
         sameFactors("line", new SpaceWalls(1), 0, 1);
         sameFactors("no walls", new SpaceWalls(3), 0, 0, 0, 1);
     }
 
     private static void without() {
-        SpaceWalls space = fan();
+        SpaceWalls space = Spaces.fan();
         int[] due = {0, 1, -2, 1};
         for (int wall = 0; wall < 3; wall++) {
             for (int i = 0; i < 4; i++) {
@@ -393,7 +342,7 @@ public final class PromisesTest {
     }
 
     private static void on() {
-        SpaceWalls space = fan();
+        SpaceWalls space = Spaces.fan();
         int[] due = {0, -1, 1, 0, 0};
         for (int wall = 0; wall < 3; wall++) {
             for (int i = 0; i < due.length; i++) {
@@ -406,9 +355,9 @@ public final class PromisesTest {
         DUE.is("wall -1", space.on(-1, 2), 0);
         DUE.is("wall 32", space.on(32, 2), 0);
         DUE.is("wall least", space.on(LEAST, 2), 0);
-        DUE.is("parallels do not meet", cube().on(0, 0), 4);
-        DUE.is("parallels do not meet", cube().on(0, 1), -4);
-        DUE.is("cube", cube().on(0, 2), 1);
+        DUE.is("parallels do not meet", Spaces.cube().on(0, 0), 4);
+        DUE.is("parallels do not meet", Spaces.cube().on(0, 1), -4);
+        DUE.is("cube", Spaces.cube().on(0, 2), 1);
         SpaceWalls line = new SpaceWalls(1);
         line.wall(1, 0, 0, 3);
         line.wall(1, 0, 0, 4);
@@ -418,7 +367,7 @@ public final class PromisesTest {
     }
 
     private static void walls() {
-        SpaceWalls space = triangle();
+        SpaceWalls space = Spaces.triangle();
         int[][] due = {{0, 3}, {8, 7}, {26, 7}, {2, 7}, {6, 7}, {20, 6}, {24, 5}};
         for (int[] pair : due) {
             DUE.is("walls of " + pair[0], space.walls(pair[0]), pair[1]);
@@ -438,7 +387,7 @@ public final class PromisesTest {
     }
 
     private static void beside() {
-        SpaceWalls space = triangle();
+        SpaceWalls space = Spaces.triangle();
         DUE.is("8 at 0", space.beside(8, 0), 6);
         DUE.is("8 at 1", space.beside(8, 1), 2);
         DUE.is("8 at 2", space.beside(8, 2), 26);
@@ -457,7 +406,7 @@ public final class PromisesTest {
     }
 
     private static void way() {
-        SpaceWalls space = triangle();
+        SpaceWalls space = Spaces.triangle();
         DUE.is("way through one", space.way(8, 26), 1);
         DUE.is("way through two", space.way(8, 0), 2);
         DUE.is("way through all", space.way(0, 26), 3);
@@ -475,7 +424,7 @@ public final class PromisesTest {
     }
 
     private static void step() {
-        SpaceWalls space = fan();
+        SpaceWalls space = Spaces.fan();
         DUE.is("wall 1 is none of room 0", space.walls(0), 5);
         DUE.is("through the least", space.step(0, 26), 0);
         DUE.is("back", space.step(26, 0), 0);
@@ -501,17 +450,17 @@ public final class PromisesTest {
 
     private static void far() {
         DUE.is("no walls", new SpaceWalls(2).far(), 0);
-        DUE.is("triangle", triangle().far(), 3);
-        DUE.is("fan", fan().far(), 3);
-        DUE.is("cube", cube().far(), 6);
-        SpaceWalls space = general();
+        DUE.is("triangle", Spaces.triangle().far(), 3);
+        DUE.is("fan", Spaces.fan().far(), 3);
+        DUE.is("cube", Spaces.cube().far(), 6);
+        SpaceWalls space = Spaces.general(3, 8);
         DUE.is("general", space.far(), 8);
         space.take(7);
         DUE.is("general less one", space.far(), 7);
     }
 
     private static void left() {
-        SpaceWalls space = triangle();
+        SpaceWalls space = Spaces.triangle();
         DUE.is("left 5", space.left(5), 13);
         DUE.is("left 2", space.left(2), 0);
         int[] none = {LEAST, -5, -2, -1, 0, 1, 4, 6, 8, 9, 10, 12, 14, 15, 16, 18, 20, 21, 22, 24, 25, 26, 27,
@@ -524,7 +473,7 @@ public final class PromisesTest {
             DUE.is("no walls", new SpaceWalls(1).left(p), p);
             DUE.is("no walls", new SpaceWalls(2).left(p), p * p);
             DUE.is("no walls", new SpaceWalls(3).left(p), p * p * p);
-            DUE.is("fan", fan().left(p), p * (p - 1) * (p - 2));
+            DUE.is("fan", Spaces.fan().left(p), p * (p - 1) * (p - 2));
         }
         SpaceWalls threefold = new SpaceWalls(2);
         threefold.wall(3, -6, 0, 7);
@@ -536,7 +485,7 @@ public final class PromisesTest {
 
     private static void count() {
         int[][] due = {{3, 6, 27, 125, 3}, {3, 3, 6, 13, 2}, {3, 8, 93, 577, 3}};
-        SpaceWalls[] spaces = {cube(), fan(), general()};
+        SpaceWalls[] spaces = {Spaces.cube(), Spaces.fan(), Spaces.general(3, 8)};
         for (int i = 0; i < spaces.length; i++) {
             for (int what = 0; what < 5; what++) {
                 DUE.is("count of " + i + " " + what, spaces[i].count(what), due[i][what]);

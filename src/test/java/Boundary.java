@@ -1,0 +1,95 @@
+import java.io.IOException;
+
+/**
+ * What all boundary tests share. Each test first says which sentence of the document it is for; every
+ * answer that is not as due is then told with that sentence, and a sentence without a test is told, too.
+ */
+final class Boundary {
+    static final int NONE = SpaceWalls.NONE;
+    static final int LEAST = Integer.MIN_VALUE;
+    static final int GREATEST = Integer.MAX_VALUE;
+
+    private static final int PROMISES = 20;
+
+    interface Maker {
+        SpaceWalls make();
+    }
+
+    interface Ask {
+        int of(SpaceWalls space);
+    }
+
+    private final Due due = new Due("BoundariesTest");
+    private final Document document;
+    private String about = "";
+    private int asked = 1;
+
+    Boundary() throws IOException {
+        document = new Document();
+    }
+
+    void terms(String sentence) {
+        begin("Terms", sentence);
+    }
+
+    void promise(int number, String sentence) {
+        begin("Promise " + number, sentence);
+    }
+
+    void begin(String section, String sentence) {
+        askedSome();
+        about = section + ", \"" + sentence + "\": ";
+        asked = 0;
+        due.holds(about + "stands in the document, and has this test alone", document.strikeOut(section, sentence));
+    }
+
+    private void askedSome() {
+        due.holds(about + "is asked about", asked > 0);
+    }
+
+    void is(String call, long got, long want) {
+        asked++;
+        due.is(about + call, got, want);
+    }
+
+    void is(String call, boolean got, boolean want) {
+        is(call, got ? 1 : 0, want ? 1 : 0);
+    }
+
+    void same(String what, String got, String want) {
+        asked++;
+        due.holds(about + what + " answered\n  " + got + ", due is\n  " + want + ", same", got.equals(want));
+    }
+
+    /** A refused call: its answer, and that the object answers on as one that never had that call. */
+    void refused(String call, Maker maker, Ask ask, int want) {
+        String never = Answers.of(maker.make());
+        SpaceWalls space = maker.make();
+        is(call, ask.of(space), want);
+        same("after " + call, Answers.of(space), never);
+        // Once more, as the object may by now hold what it found out for the answers.
+        is(call + " again", ask.of(space), want);
+        same("after " + call + " again", Answers.of(space), never);
+    }
+
+    /** The same for calls that answer true or false: false is due. */
+    void refusedAsFalse(String call, Maker maker, Ask ask) {
+        refused(call, maker, ask, 0);
+    }
+
+    void end() {
+        askedSome();
+        about = "";
+        nothingLeft("Terms");
+        for (int number = 1; number <= PROMISES; number++) {
+            nothingLeft("Promise " + number);
+        }
+        due.end();
+    }
+
+    private void nothingLeft(String section) {
+        due.holds(section + " is in the document", document.has(section));
+        String left = document.leftOf(section);
+        due.holds(section + " has no test for: " + left, left.isEmpty());
+    }
+}
