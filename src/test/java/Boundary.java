@@ -56,9 +56,17 @@ final class Boundary {
         is(call, got ? 1 : 0, want ? 1 : 0);
     }
 
+    /** Two texts of Answers; of another one only the first line that is not as due is told. */
     void same(String what, String got, String want) {
         asked++;
-        due.holds(about + what + " answered\n  " + got + ", due is\n  " + want + ", same", got.equals(want));
+        String[] gotLines = got.split("\n");
+        String[] wantLines = want.split("\n");
+        int line = 0;
+        while (line + 1 < Math.min(gotLines.length, wantLines.length) && gotLines[line].equals(wantLines[line])) {
+            line++;
+        }
+        due.is(about + what + ", line " + line, gotLines[line], wantLines[line]);
+        due.is(about + what + ", lines", gotLines.length, wantLines.length);
     }
 
     /** A refused call: its answer, and that the object answers on as one that never had that call. */

@@ -31,7 +31,8 @@ final class CountTerms {
                 SpaceWalls slices = Spaces.slices(d, many);
                 for (int i = 0; i <= d; i++) {
                     int sign = (d - i) % 2 == 0 ? 1 : -1;
-                    due.is(many + " walls in " + d + ", power " + i, general.poly(i), sign * Spaces.choose(many, d - i));
+                    due.is(many + " walls in " + d + ", power " + i, general.poly(i),
+                        sign * Spaces.choose(many, d - i));
                     due.is(many + " walls side by side in " + d + ", power " + i, slices.poly(i),
                         i == d ? 1 : i == d - 1 ? -many : 0);
                 }

@@ -11,11 +11,22 @@ final class Due {
     void is(String call, long got, long want) {
         asked++;
         if (got != want) {
-            wrong++;
-            // A broken program may give thousands of these; the first ones tell enough.
-            if (wrong <= 40) {
-                System.out.println(name + ": " + call + " answered " + got + ", due is " + want);
-            }
+            tell(call, Long.toString(got), Long.toString(want));
+        }
+    }
+
+    void is(String call, String got, String want) {
+        asked++;
+        if (!got.equals(want)) {
+            tell(call, got, want);
+        }
+    }
+
+    private void tell(String call, String got, String want) {
+        wrong++;
+        // A broken program may give thousands of these; the first ones tell enough.
+        if (wrong <= 40) {
+            System.out.println(name + ": " + call + " answered " + got + ", due is " + want);
         }
     }
 

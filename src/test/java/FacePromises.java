@@ -67,7 +67,8 @@ final class FacePromises {
                 }
                 int[] noWidths = {LEAST, -2, -1, numbers + 1, numbers + 2, GREATEST};
                 for (int width : noWidths) {
-                    due.refused(many + " walls in " + numbers + ", no width " + width, maker, s -> s.face(width, 0), NONE);
+                    due.refused(many + " walls in " + numbers + ", no width " + width, maker,
+                        s -> s.face(width, 0), NONE);
                 }
             }
         }

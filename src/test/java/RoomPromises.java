@@ -28,7 +28,8 @@ final class RoomPromises {
     }
 
     private void walls() {
-        due.promise(14, "The WALLS that are OF a ROOM (the sum of 2 to the power of their numbers); NONE if it is none.");
+        due.promise(14,
+            "The WALLS that are OF a ROOM (the sum of 2 to the power of their numbers); NONE if it is none.");
         for (int numbers = 1; numbers <= 3; numbers++) {
             for (int many = 0; many <= 8; many++) {
                 SpaceWalls space = Spaces.slices(numbers, many);

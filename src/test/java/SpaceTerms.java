@@ -251,6 +251,18 @@ final class SpaceTerms {
             due.is("steep " + more + ", on all three", steep.width(13), off);
             due.is("steep " + more + ", rank", steep.count(4), 3 - off);
         }
+        for (int i = 0; i < 3; i++) {
+            for (int more = -1; more <= 1; more++) {
+                int[] w = new int[3];
+                w[i] = 1;
+                w[(i + 1) % 3] = 8;
+                SpaceWalls pair = Spaces.of(3, w[0], w[1], w[2], 0);
+                w[(i + 1) % 3] += more;
+                pair.wall(w[0], w[1], w[2], 1);
+                due.is("1 and 8 beside 1 and " + (8 + more) + ", rank", pair.count(4), more == 0 ? 1 : 2);
+                due.is("1 and 8 beside 1 and " + (8 + more) + ", on both", pair.width(4), more == 0 ? NONE : 1);
+            }
+        }
         SpaceWalls book = new SpaceWalls(3);
         for (int k = 0; k < 7; k++) {
             book.wall(1, k, 0, 0);

@@ -58,6 +58,16 @@ final class Spaces {
         return space;
     }
 
+    /** Walls of two or three numbers that all meet in the place 0, 0, 0, and otherwise as few as can be. */
+    static SpaceWalls bundle(int numbers, int many) {
+        SpaceWalls space = new SpaceWalls(numbers);
+        for (int k = 0; k < many; k++) {
+            int[] w = generalWall(numbers, k);
+            space.wall(w[0], w[1], w[2], 0);
+        }
+        return space;
+    }
+
     /**
      * With m = k - 3, a place is on wall k if m is a root of m - x, of m^2 - y m - x or of
      * m^3 - z m^2 - y m - x: so on at most d of them. The eighth wall of three numbers would have too

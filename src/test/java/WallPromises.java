@@ -54,6 +54,26 @@ final class WallPromises {
             due.is("the first goes", space.take(0), true);
             due.is("the last number is free", space.wall(9, 0, 0, 98), 7);
             due.is("the first is now what was the second", space.told(0, 3), Spaces.generalWall(numbers, 1)[3]);
+            int d = numbers;
+            replaceEach("eight in general in " + d, () -> Spaces.general(d, 8));
+            replaceEach("eight side by side in " + d, () -> Spaces.slices(d, 8));
+            if (d > 1) {
+                replaceEach("eight through a place in " + d, () -> Spaces.bundle(d, 8));
+            }
+        }
+        replaceEach("octagon", Spaces::octagon);
+    }
+
+    /** A wall comes for one that has gone: the object answers as one that never had the other. */
+    private void replaceEach(String of, Boundary.Maker maker) {
+        for (int wall = 0; wall < 8; wall++) {
+            SpaceWalls space = maker.make();
+            SpaceWalls twin = others(maker.make(), wall);
+            due.is(of + ": it matters that " + wall + " is there", Answers.of(space).equals(Answers.of(twin)), false);
+            due.is(of + ": " + wall + " goes", space.take(wall), true);
+            due.is(of + ": another comes for " + wall, space.wall(9, 0, 0, 97), 7);
+            due.is(of + ": the same comes to the others", twin.wall(9, 0, 0, 97), 7);
+            due.same(of + ": after another came for " + wall, Answers.of(space), Answers.of(twin));
         }
     }
 
@@ -102,11 +122,17 @@ final class WallPromises {
                 }
                 due.refusedAsFalse("of " + many + ", take the next", () -> Spaces.general(numbers, many),
                     s -> s.take(many) ? 1 : 0);
-                for (int wall = 0; wall < many; wall++) {
-                    takeOne(numbers, many, wall);
-                }
+                takeEach(many + " walls in general in " + numbers, () -> Spaces.general(numbers, many));
+                takeEach(many + " walls side by side in " + numbers, () -> Spaces.slices(numbers, many));
             }
         }
+        takeEach("triangle", Spaces::triangle);
+        takeEach("fan", Spaces::fan);
+        takeEach("cube", Spaces::cube);
+        takeEach("octagon", Spaces::octagon);
+        takeEach("eight through a place in 2", () -> Spaces.bundle(2, 8));
+        takeEach("eight through a place in 3", () -> Spaces.bundle(3, 8));
+        takeEach("tube with two ends", () -> Spaces.of(3, 0, 0, 1, 0, 1, 0, 0, 0, 0, 1, 0, 0, 1, 1, 0, 2, 0, 0, 1, 1));
         SpaceWalls space = Spaces.general(3, 8);
         for (int left = 7; left >= 0; left--) {
             due.is("take one of " + (left + 1), space.take(left / 2), true);
@@ -119,19 +145,26 @@ final class WallPromises {
     }
 
     /** After a wall has gone, the object answers as one that only the others came to. */
-    private void takeOne(int numbers, int many, int wall) {
-        SpaceWalls space = Spaces.general(numbers, many);
-        SpaceWalls others = new SpaceWalls(numbers);
-        for (int k = 0; k < many; k++) {
+    private void takeEach(String of, Boundary.Maker maker) {
+        int many = maker.make().count(1);
+        for (int wall = 0; wall < many; wall++) {
+            SpaceWalls space = maker.make();
+            SpaceWalls others = others(maker.make(), wall);
+            // What it found out for these answers must not stay when the wall goes.
+            due.is(of + ": it matters that " + wall + " is there", Answers.of(space).equals(Answers.of(others)), false);
+            due.is(of + ": take " + wall, space.take(wall), true);
+            due.same("after " + of + ": take " + wall, Answers.of(space), Answers.of(others));
+        }
+    }
+
+    private static SpaceWalls others(SpaceWalls space, int wall) {
+        SpaceWalls others = new SpaceWalls(space.count(0));
+        for (int k = 0; k < space.count(1); k++) {
             if (k != wall) {
-                int[] w = Spaces.generalWall(numbers, k);
-                others.wall(w[0], w[1], w[2], w[3]);
+                others.wall(space.told(k, 0), space.told(k, 1), space.told(k, 2), space.told(k, 3));
             }
         }
-        String call = "of " + many + " walls in " + numbers + ", take " + wall;
-        due.is(call + ", faces before", space.count(3) > others.count(3), true);
-        due.is(call, space.take(wall), true);
-        due.same("after " + call, Answers.of(space), Answers.of(others));
+        return others;
     }
 
     private void told() {
