@@ -1,14 +1,15 @@
 import java.io.IOException;
 
 /**
- * For each sentence of the document's terms and promises a test of its own, at the boundaries that the
- * sentence names and on both of their sides. It fails, too, if a sentence has none.
+ * For each sentence of the document a test of its own, at the boundaries that the sentence names and on
+ * both of their sides. It fails, too, if a sentence has none.
  */
 public final class BoundariesTest {
     private BoundariesTest() { }
 
     public static void main(String[] args) throws IOException {
         Boundary due = new Boundary();
+        new WhatItIs(due).ask();
         new SpaceTerms(due).ask();
         new CountTerms(due).ask();
         new WallPromises(due).ask();

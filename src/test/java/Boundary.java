@@ -1,4 +1,7 @@
 import java.io.IOException;
+import java.util.ArrayList;
+import java.util.List;
+import java.util.Set;
 
 /**
  * What all boundary tests share. Each test first says which sentence of the document it is for; every
@@ -88,16 +91,20 @@ final class Boundary {
     void end() {
         askedSome();
         about = "";
-        nothingLeft("Terms");
+        List<String> asked = new ArrayList<>(List.of("What it is", "Terms"));
         for (int number = 1; number <= PROMISES; number++) {
-            nothingLeft("Promise " + number);
+            asked.add("Promise " + number);
         }
+        for (String section : asked) {
+            String left = document.leftOf(section);
+            due.holds(section + " has no test for: " + left, left.isEmpty());
+        }
+        Set<String> sections = document.sections();
+        due.holds("all of " + asked + " are in the document", sections.containsAll(asked));
+        sections.removeAll(asked);
+        // LanguageTest asks about the face; of what is not promised nothing can be asked.
+        sections.removeAll(List.of("The public face", "Not promised"));
+        due.holds("sections without a test: " + sections, sections.isEmpty());
         due.end();
-    }
-
-    private void nothingLeft(String section) {
-        due.holds(section + " is in the document", document.has(section));
-        String left = document.leftOf(section);
-        due.holds(section + " has no test for: " + left, left.isEmpty());
     }
 }

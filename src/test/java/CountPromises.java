@@ -1,4 +1,4 @@
-/** Promises 19 and 20: left, count; and how many calls an object has. */
+/** Promises 19 and 20: left, count. */
 final class CountPromises {
     private static final int NONE = Boundary.NONE;
     private static final int LEAST = Boundary.LEAST;
@@ -14,7 +14,6 @@ final class CountPromises {
         left();
         count();
         countOthers();
-        calls();
     }
 
     private static boolean isPrime(int p) {
@@ -90,29 +89,6 @@ final class CountPromises {
                 due.is(many + " walls, count 0", maker.make().count(0), numbers);
                 due.is(many + " walls, count 4", maker.make().count(4), Math.min(numbers, many));
             }
-        }
-    }
-
-    /** The 511th and the 512th call are answered as any other; the 513th is not asked. */
-    private void calls() {
-        due.begin("What it is",
-            "An object is used for at most 512 calls after it has been made; what later calls answer is free.");
-        SpaceWalls asked = Spaces.general(3, 8);
-        for (int call = 9; call <= 512; call++) {
-            int width = call % 4;
-            due.is("call " + call, asked.faces(width), new int[] {56, 196, 232, 93}[width]);
-        }
-        SpaceWalls refused = new SpaceWalls(2);
-        for (int call = 1; call <= 511; call++) {
-            due.is("call " + call, refused.wall(0, 0, 0, call % 9), NONE);
-        }
-        due.is("call 512", refused.wall(1, 2, 0, 3), 0);
-        SpaceWalls changed = Spaces.general(3, 7);
-        for (int call = 8; call + 3 <= 512; call += 4) {
-            due.is("call " + call, changed.wall(0, 0, 1, 7), 7);
-            due.is("call " + (call + 1), changed.count(3), 577);
-            due.is("call " + (call + 2), changed.take(7), true);
-            due.is("call " + (call + 3), changed.count(2), 64);
         }
     }
 }

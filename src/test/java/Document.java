@@ -2,11 +2,14 @@ import java.io.IOException;
 import java.nio.file.Files;
 import java.nio.file.Path;
 import java.util.LinkedHashMap;
+import java.util.LinkedHashSet;
 import java.util.Map;
+import java.util.Set;
 
 /** The document's sections. Tests strike out the sentences they ask about; what is left has no test. */
 final class Document {
     private static final Path FILE = Path.of("../shared/DOC.md");
+    private static final String TITLE = "# SpaceWalls";
     // What stands in the sections beside sentences: the terms' numbers, fences, the calls' heads.
     private static final String NO_SENTENCE = "==== \\d+\\.|```(text)?|`[^`]*`:";
 
@@ -35,8 +38,11 @@ final class Document {
         return true;
     }
 
-    boolean has(String section) {
-        return left.containsKey(section);
+    /** The names of all sections, without what stands before the first. */
+    Set<String> sections() {
+        Set<String> names = new LinkedHashSet<>(left.keySet());
+        names.remove(TITLE);
+        return names;
     }
 
     /** What no test has struck out of a section. */
