@@ -150,5 +150,19 @@ final class WhatItIs {
             due.is("call " + (call + 2), changed.take(7), true);
             due.is("call " + (call + 3), changed.count(2), 64);
         }
+        changedLast();
+    }
+
+    /** Walls that come and go in the last of 512 calls change what is asked as any others do. */
+    private void changedLast() {
+        SpaceWalls space = Spaces.general(3, 7);
+        for (int call = 8; call <= 507; call++) {
+            due.is("call " + call, space.count(2), 64);
+        }
+        due.is("call 508", space.wall(0, 0, 1, 7), 7);
+        due.is("call 509", space.count(3), 577);
+        due.is("call 510", space.take(7), true);
+        due.is("call 511", space.count(2), 64);
+        due.is("call 512", space.count(3), 35 + 126 + 154 + 64);
     }
 }
